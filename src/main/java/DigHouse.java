@@ -645,9 +645,9 @@ public final class DigHouse {
     private static final class Book {
         private final int[] ends = new int[MOST_ACTS];
         private int acts;
-        private Column[] whose = new Column[512];
-        private int[] where = new int[512];
-        private int[] was = new int[512];
+        private Column[] whose = new Column[128];
+        private int[] where = new int[128];
+        private int[] was = new int[128];
         private int changes;
         private int edition;
 
@@ -1054,7 +1054,8 @@ public final class DigHouse {
             return i >= 0 && i < chartSize ? charted[i] : NONE;
         }
 
-        private void refresh() {
+        /** Those that read its rows themselves call it first. */
+        void refresh() {
             if (seen == units.edition) {
                 return;
             }
@@ -1792,6 +1793,7 @@ public final class DigHouse {
                 return;
             }
             seen = units.edition;
+            web.refresh();
             length = 0;
             for (int u = 0; u < units.size() && length < blocks; u++) {
                 if (units.blockOf(u) == u) {
