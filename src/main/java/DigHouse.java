@@ -94,7 +94,7 @@ public final class DigHouse {
         if (!units.has(unit) || what < THICKNESS || what > BOTH) {
             return BAD;
         }
-        int answer = units.ask(traced, unit, what);
+        int answer = traced.answer(units, unit, what);
         return traced.sharedAmongNone ? counted(NOUGHT) : tell(answer);
     }
 
@@ -139,6 +139,7 @@ public final class DigHouse {
     }
 
     private int ringed(int from, int to) {
+        web.refresh();
         ring.walk(web, from, to);
         return refused(RING);
     }
@@ -212,7 +213,7 @@ public final class DigHouse {
         if (!units.has(unit) || n > MOST_SLOTS) {
             return refused(BAD);
         }
-        if (book.isFull() || trays.areFull() || trays.ownedBy(unit) >= units.ask(untraced, unit, TRAYS)) {
+        if (book.isFull() || trays.areFull() || trays.ownedBy(unit) >= untraced.answer(units, unit, TRAYS)) {
             return refused(FULL);
         }
         if (n < 0) {
@@ -700,7 +701,10 @@ public final class DigHouse {
             int begin = acts == 0 ? 0 : ends[acts - 1];
             // Backwards: a number that one act changed twice has to get its oldest value.
             for (int i = changes - 1; i >= begin; i--) {
-                whose[i].restore(where[i], was[i]);
+                Column column = whose[i];
+                if (column != null) {
+                    column.restore(where[i], was[i]);
+                }
             }
             changes = begin;
             edition++;
@@ -743,10 +747,7 @@ public final class DigHouse {
             return i >= 0 && i < length ? begun[i] : NONE;
         }
 
-        private void begin(int body) {
-            give(body, 0);
-        }
-
+        /** A BODY begins, and gives its own number: Java goes from left to right, as the BODIES do. */
         private int give(int body, int value) {
             if (length < begun.length) {
                 begun[length] = body;
@@ -755,7 +756,9 @@ public final class DigHouse {
             return value;
         }
 
-        int answer(int kind, int n, int what) {
+        int answer(Units units, int unit, int what) {
+            int kind = units.kinds.now[unit];
+            int n = units.numbers.now[unit];
             length = 0;
             sharedAmongNone = false;
             switch (what) {
@@ -777,11 +780,9 @@ public final class DigHouse {
                 case CUT:
                     return thicknessOfCut(n);
                 case FILL:
-                    begin(2);
-                    return give(1, n) + 5;
+                    return give(2, 5) + give(1, n);
                 case WALL:
-                    begin(3);
-                    return 2 * give(1, n);
+                    return give(3, 2) * give(1, n);
                 case BURIAL:
                     return thicknessOfBurial(n);
                 default:
@@ -790,18 +791,17 @@ public final class DigHouse {
         }
 
         private int thicknessOfCut(int n) {
-            begin(4);
-            return -give(1, n);
+            return give(4, 0) - give(1, n);
         }
 
         private int thicknessOfBurial(int n) {
-            begin(5);
+            int shared = give(5, 1000);
             int among = thicknessOfCut(n);
             if (among == 0) {
                 sharedAmongNone = true;
                 return 0;
             }
-            return 1000 / among;
+            return shared / among;
         }
 
         private int traysLent(int kind) {
@@ -809,8 +809,7 @@ public final class DigHouse {
                 case CUT:
                     return give(10, 3);
                 case WALL:
-                    begin(12);
-                    return give(11, 5) - 4;
+                    return give(12, -4) + give(11, 5);
                 case BURIAL:
                     return give(13, 6);
                 default:
@@ -823,8 +822,7 @@ public final class DigHouse {
                 case CUT:
                     return give(20, 20);
                 case WALL:
-                    begin(22);
-                    return give(21, n % 50) + 10;
+                    return give(22, 10) + give(21, n % 50);
                 case BURIAL:
                     return give(23, 5);
                 default:
@@ -837,8 +835,7 @@ public final class DigHouse {
                 case CUT:
                     return give(31, 67);
                 case BURIAL:
-                    begin(32);
-                    return give(31, 67) - 1;
+                    return give(32, -1) + give(31, 67);
                 default:
                     return give(30, 85);
             }
@@ -921,10 +918,6 @@ public final class DigHouse {
                 names[u] = tied == u ? u : names[tied];
                 blocks += tied == u ? 1 : 0;
             }
-        }
-
-        int ask(Bodies bodies, int unit, int what) {
-            return bodies.answer(kinds.now[unit], numbers.now[unit], what);
         }
 
         private boolean isCut(int unit) {
@@ -1137,7 +1130,7 @@ public final class DigHouse {
         }
     }
 
-    /** A shortest row of RELATIONS, of several the first by their numbers. */
+    /** A shortest row of RELATIONS, of several the first by their numbers. The Web has to be fresh. */
     private static final class Trail {
         private final int[] relations = new int[MOST_UNITS];
         private int length;
@@ -1162,7 +1155,6 @@ public final class DigHouse {
         }
 
         void measure(Web web, int to) {
-            web.refresh();
             Arrays.fill(steps, NONE);
             steps[to] = 0;
             queue[0] = to;
@@ -1228,6 +1220,14 @@ public final class DigHouse {
 
         int numberAt(int i) {
             return i >= 0 && i < numbers.length ? numbers[i] : 0;
+        }
+
+        int sum() {
+            int n = 0;
+            for (int i = 0; i < numbers.length; i++) {
+                n += numbers[i];
+            }
+            return n;
         }
 
         static Find withSherds(Find old, int type, int n) {
@@ -1385,8 +1385,15 @@ public final class DigHouse {
         }
 
         int lookFor(int tray, int slot, int kind) {
-            int finding = lookForSome(tray, slot);
-            return finding != 0 ? finding : lookForMore(tray, slot, kind);
+            int finding = look(tray, slot);
+            if (finding != 0) {
+                return finding;
+            }
+            Find held = findAt(tray, slot);
+            if (held == null) {
+                return NOTHING;
+            }
+            return held.kind == kind ? 0 : CAST;
         }
 
         /** As for a SLOT that may be EMPTY, too. */
@@ -1516,11 +1523,8 @@ public final class DigHouse {
             int n = 0;
             for (int s = 0; s < slotsOf(tray); s++) {
                 Find held = findAt(tray, s);
-                if (held == null || held.kind != SHERDS) {
-                    continue;
-                }
-                for (int i = 0; i < TYPES; i++) {
-                    n += type == NONE || type == i ? held.numberAt(i) : 0;
+                if (held != null && held.kind == SHERDS) {
+                    n += type == NONE ? held.sum() : held.numberAt(type);
                 }
             }
             return n;
@@ -1637,8 +1641,8 @@ public final class DigHouse {
         }
 
         private void boundByTray(int unit, int tray) {
-            int margin = units.ask(bodies, unit, MARGIN);
-            boolean both = units.ask(bodies, unit, BOTH) == 1;
+            int margin = bodies.answer(units, unit, MARGIN);
+            boolean both = bodies.answer(units, unit, BOTH) == 1;
             for (int s = 0; s < trays.slotsOf(tray); s++) {
                 Find held = trays.findAt(tray, s);
                 if (held == null) {
@@ -1709,6 +1713,7 @@ public final class DigHouse {
         }
 
         private void seekQuarrel() {
+            web.refresh();
             belowBlock = NONE;
             aboveBlock = NONE;
             int least = MOST_UNITS;

@@ -33,7 +33,8 @@ public final class BookTest {
             case 21: return x.move(1, 0, 0, 1);
             case 22: return x.take(0, 1);
             case 23: return x.span(1, 5, 6);
-            default: return x.lose(0);
+            case 24: return x.lose(0);
+            default: throw new IllegalArgumentException("no such act");
         }
     }
 
@@ -57,6 +58,25 @@ public final class BookTest {
             due("act " + i + " again", act(x, i), answers[i]);
         }
         due("digest() again", x.digest(), digests[25]);
+    }
+
+    private static void undoAll() {
+        DigHouse x = new DigHouse();
+        for (int i = 0; i < 24; i++) {
+            act(x, i);
+        }
+        for (int i = 24; i < 230; i++) {
+            due("copy " + i, x.copy(0, 0, 3, 1, i % 3), 3);
+        }
+        for (int i = 229; i >= 0; i--) {
+            due("undo() to " + i, x.undo(), i);
+        }
+        due("digest() of nothing", x.digest(), 17);
+        for (int what = 0; what <= 12; what++) {
+            due("count(" + what + ") of nothing", x.count(what), 0);
+        }
+        due("unit(1, 0)", x.unit(1, 0), 0);
+        due("digest() of a CUT", x.digest(), hash(1, 0, 0, -10000, 2100));
     }
 
     private static void staysByUndo() {
@@ -229,6 +249,7 @@ public final class BookTest {
 
     public static void main(String[] args) {
         undo();
+        undoAll();
         staysByUndo();
         count();
         status();

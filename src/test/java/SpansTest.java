@@ -215,6 +215,24 @@ public final class SpansTest {
         dueBecause(x, "of two like RELATIONS the first", 3, 400, -5, -5, 5, 200, -5, -5, 0);
     }
 
+    private static void quarrelByOtherBlocks() {
+        DigHouse x = new DigHouse();
+        x.unit(0, 0);
+        x.unit(0, 0);
+        x.unit(0, 0);
+        x.span(1, 50, 100);
+        x.span(2, 500, 600);
+        dueBecause(x, "apart");
+        x.bond(1, 2);
+        dueBecause(x, "one", 2, 500, -5, -5, 1, 100, -5, -5);
+        x.undo();
+        dueBecause(x, "apart again");
+        x.bond(0, 1);
+        dueBecause(x, "others are one");
+        x.bond(2, 1);
+        dueBecause(x, "all are one", 2, 500, -5, -5, 1, 100, -5, -5);
+    }
+
     private static void orderOfFinds() {
         DigHouse x = new DigHouse();
         x.unit(4, 0);
@@ -246,6 +264,7 @@ public final class SpansTest {
         drawnTogether();
         quarrelOfOne();
         quarrelByRows();
+        quarrelByOtherBlocks();
         orderOfFinds();
         CHECK.end();
     }

@@ -362,6 +362,18 @@ public final class TraysTest {
         due("kind(0, 2) after undo()", x.kind(0, 2), 0);
     }
 
+    private static void copyOfOne() {
+        DigHouse x = dig();
+        x.note(0, 0, 65);
+        int acts = x.count(4);
+        due("copy of one", x.copy(0, 0, 1, 1, 0), 1);
+        due("in THE BOOK", x.count(4), acts + 1);
+        due("onto itself", x.copy(0, 0, 1, 0, 0), 1);
+        due("in THE BOOK", x.count(4), acts + 2);
+        due("undo()", x.undo(), acts + 1);
+        due("kind(1, 0)", x.kind(1, 0), 3);
+    }
+
     private static void copyEnds() {
         DigHouse x = dig();
         x.coin(0, 0, 1, 2);
@@ -506,6 +518,7 @@ public final class TraysTest {
         kind();
         mark();
         copy();
+        copyOfOne();
         copyEnds();
         join();
         total();
