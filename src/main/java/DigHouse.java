@@ -778,30 +778,21 @@ public final class DigHouse {
         private int thickness(int kind, int n) {
             switch (kind) {
                 case CUT:
-                    return thicknessOfCut(n);
+                    return give(4, 0) - give(1, n);
                 case FILL:
                     return give(2, 5) + give(1, n);
                 case WALL:
                     return give(3, 2) * give(1, n);
                 case BURIAL:
-                    return thicknessOfBurial(n);
+                    return shared(give(5, 1000), give(4, 0) - give(1, n));
                 default:
                     return give(1, n);
             }
         }
 
-        private int thicknessOfCut(int n) {
-            return give(4, 0) - give(1, n);
-        }
-
-        private int thicknessOfBurial(int n) {
-            int shared = give(5, 1000);
-            int among = thicknessOfCut(n);
-            if (among == 0) {
-                sharedAmongNone = true;
-                return 0;
-            }
-            return shared / among;
+        private int shared(int all, int among) {
+            sharedAmongNone = among == 0;
+            return sharedAmongNone ? 0 : all / among;
         }
 
         private int traysLent(int kind) {
