@@ -9,7 +9,7 @@ import java.util.Set;
 
 /**
  * A new DigHouse for one sentence of the document, its calls made by their names. What is not as due is printed with the
- * sentence and all calls ahead of it.
+ * sentence and the calls ahead of it.
  */
 final class Dig {
     static final int BAD = -1, STATE = -2, FULL = -3, RING = -4, NONE = -5;
@@ -68,7 +68,9 @@ final class Dig {
         if (got != want) {
             wrong++;
             if (wrong <= 20) {
-                System.out.println("\"" + sentence + "\": " + what + " is " + got + ", due is " + want + ", after " + calls);
+                List<Call> latest = calls.subList(Math.max(0, calls.size() - 40), calls.size());
+                System.out.println("\"" + sentence + "\": " + what + " is " + got + ", due is " + want + ", after"
+                    + (latest.size() < calls.size() ? " .. " : " ") + latest);
             }
         }
     }

@@ -26,6 +26,8 @@ public final class EdgesOfBookTest {
             {"mark", 0, 1, 1}, {"copy", 0, 0, 1, 0, 5}, {"join", 0, 0, 0, 0}, {"span", 0, 1, 2}, {"bond", 0, 2}, {"bond", 1, 1}, {"lose", 3},
             {"copy", 0, 0, 0, 0, 5}};
         for (Object[] c : done) {
+            // So that status() has to become FULL anew.
+            d.due(Dig.BAD, "unit", 5, 0);
             refuses(d, Dig.FULL, c);
         }
     }
@@ -103,6 +105,48 @@ public final class EdgesOfBookTest {
             d.due(4, "count", 0).due(1, "count", 1).due(3, "count", 2).due(4, "count", 3).due(1, "count", 11).due(1, "count", 12);
             d.due(bag, "bagged", 0, 4).due(0, "sherds", 2, 0, 7, 0).due(5, "total", 0, -5).told(100, "drawn", 0, 0);
         }
+    }
+
+    /** Acts with many changes each: none is forgotten, and the first of them is as near as the latest. */
+    private static void undoMany() {
+        Dig d = new Dig("undo(): all is as if just those that are in it had been done, however many changes they made");
+        d.units(4, 0).does("tray", 0, 40).does("tray", 1, 40).does("coin", 0, 0, 1, 2).does("sherds", 0, 1, 3, 4).does("note", 0, 2, 65);
+        long[] digests = new long[100];
+        for (int i = 0; i < digests.length; i++) {
+            digests[i] = d.answer("digest");
+            if (i % 4 == 3) {
+                d.does("span", i / 4 % 2, i, 1000 + i);
+            } else {
+                d.does("copy", i % 2, 0, 40, (i + 1) % 2, i % 3);
+            }
+        }
+        for (int i = digests.length - 1; i >= 0; i--) {
+            d.due(7 + i, "undo").due(digests[i], "digest");
+        }
+        d.due(4, "total", 0, -5).due(0, "total", 1, -5).told(1, "year", 0, 0, false).due(65, "letter", 0, 2, 0).due(-5, "kind", 1, 0);
+    }
+
+    private static void undoAfterUndo() {
+        Dig d = new Dig("undo(): as if just those that are in it had been done, ahead of it nothing: what went back before leaves no trace");
+        d.layers(2).does("span", 0, 1, 10).does("span", 0, 2, 20).due(3, "undo").due(2, "undo").does("span", 0, -10000, 30);
+        d.does("span", 1, 5, 40).due(3, "undo").told(-10000, "drawn", 0, 0).told(30, "drawn", 0, 1).told(-10000, "drawn", 1, 0).told(2100, "drawn", 1, 1);
+        d.due(2, "undo").told(2100, "drawn", 0, 1).does("tray", 0, 2).does("coin", 0, 0, 7, 8).does("undo").does("sherds", 0, 0, 1, 3);
+        d.does("undo").does("note", 0, 0, 65).due(3, "kind", 0, 0).due(65, "letter", 0, 0, 0).does("undo").due(-5, "kind", 0, 0);
+        d.does("undo").does("tray", 1, 1).refuses(Dig.BEYOND, "kind", 0, 1).due(-5, "kind", 0, 0).does("sherds", 0, 0, 0, 2).due(2, "total", 1, 0);
+    }
+
+    private static void bookOfFinds() {
+        Dig d = new Dig("300 at most, each with a FIND of its own");
+        d.layers(1).does("tray", 0, 3).does("coin", 0, 1, 5, 6).does("sample", 0, 2, 7, 8);
+        for (int acts = 4; acts < 300; acts++) {
+            d.due(acts % 2 == 0 ? 1 : 0, "sherds", 0, 0, acts / 2 % 8, acts % 2 == 0 ? 1 : -1);
+            if (acts % 10 == 9) {
+                d.due(acts, "undo").due(0, "sherds", 0, 0, acts / 2 % 8, -1);
+            }
+        }
+        d.due(300, "count", 4).refuses(Dig.FULL, "sherds", 0, 0, 0, 1).due(0, "total", 0, -5).due(299, "undo").due(1, "total", 0, -5);
+        d.due(1, "sherd", 0, 0, 299 / 2 % 8).due(0, "mark", 0, 1, 2).told(6, "year", 0, 1, true).told(8, "grain", 0, 2, true);
+        d.refuses(Dig.FULL, "mark", 0, 1, 1).due(299, "undo").due(0, "sherds", 0, 0, 299 / 2 % 8, -1).due(0, "sherd", 0, 0, 299 / 2 % 8);
     }
 
     private static void undoStays() {
@@ -193,6 +237,9 @@ public final class EdgesOfBookTest {
         bookHas();
         undo();
         undoEach();
+        undoMany();
+        undoAfterUndo();
+        bookOfFinds();
         undoStays();
         count();
         status();

@@ -133,6 +133,8 @@ public final class EdgesOfFindsTest {
         ends(d, Dig.NOTHING, 2, 0, 1, 2, 0);
         ends(d, Dig.NOTHING, 2, 0, 1, 1, 6);
         ends(d, Dig.NOTHING, 0, 4, 1, 2, 0);
+        ends(d, Dig.NOTHING, 0, 6, 1, 2, 0);
+        ends(d, Dig.NOTHING, 0, -1, 1, 2, 6);
         ends(d, Dig.STATE, 0, 4, 1, 1, 0);
         ends(d, Dig.STATE, 0, 5, 1, 0, 4);
         ends(d, Dig.STATE, 0, 4, 1, 0, 4);

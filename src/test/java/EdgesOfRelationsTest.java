@@ -197,6 +197,16 @@ public final class EdgesOfRelationsTest {
         d.does("undo").due(0, "later", 0, 3).due(0, "later", 1, 3).due(1, "later", 2, 3);
     }
 
+    private static void laterAndBack() {
+        Dig d = new Dig("12: LATER, and not any more after undo(), for the least and the greatest UNITS");
+        d.layers(100);
+        int[][] pairs = {{0, 1}, {0, 63}, {0, 64}, {0, 99}, {64, 0}, {99, 0}, {64, 63}, {63, 64}, {98, 99}, {99, 98}, {99, 64}};
+        for (int[] p : pairs) {
+            d.due(0, "later", p[0], p[1]).does("above", p[0], p[1]).due(1, "later", p[0], p[1]).due(0, "later", p[1], p[0]).due(1, "row", p[0]);
+            d.does("above", p[0], p[1]).list("chart", 0).does("undo").does("undo").due(0, "later", p[0], p[1]).due(0, "row", p[0]).list("chart");
+        }
+    }
+
     private static void needless() {
         Dig d = new Dig("NEEDLESS: an earlier RELATION (by number) between the same two BLOCKS, in the same direction");
         d.units(1, 0, 1, 0).does("cut", 0, 1).does("above", 0, 1).does("above", 2, 3);
@@ -240,6 +250,7 @@ public final class EdgesOfRelationsTest {
         longestRing();
         relation();
         later();
+        laterAndBack();
         needless();
         chart();
         row();

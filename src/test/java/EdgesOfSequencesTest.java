@@ -25,6 +25,9 @@ public final class EdgesOfSequencesTest {
         d.does("above", 3, 4).due(10, "orders").does("above", 0, 3).due(6, "orders").does("bond", 4, 2).due(2, "orders");
         d.does("bond", 3, 1).due(1, "orders").due(3, "first").due(2, "place", 0).due(1, "place", 1).due(0, "place", 2).due(-5, "place", 3);
         d.does("undo").due(2, "orders").does("undo").due(6, "orders");
+        Dig e = new Dig("all rows of all BLOCKS in which each stands behind all that it is LATER than");
+        e.layers(5).does("above", 0, 1).does("above", 2, 1).due(40, "orders").does("above", 2, 3).due(25, "orders");
+        e.does("above", 4, 3).due(16, "orders").does("above", 0, 3).due(14, "orders").does("undo").due(16, "orders");
     }
 
     private static void allHangTogether() {

@@ -148,6 +148,12 @@ public final class EdgesOfSpansTest {
         sample(rounded, 0, 0, -Float.MIN_VALUE, 0, -1, 0);
         sample(rounded, 0, 0, 0, Float.MIN_VALUE, -1, 1);
         sample(rounded, 0, 0, Float.MIN_NORMAL, 0, 0, 1);
+        sample(rounded, 0, 0, 2 * Float.MIN_NORMAL, 1.5f * Float.MIN_NORMAL, 0, 1);
+        sample(rounded, 0, 0, Float.MIN_NORMAL, 0.75f * Float.MIN_NORMAL, 0, 1);
+        sample(rounded, 0, 0, Float.MIN_NORMAL, 1.25f * Float.MIN_NORMAL, -1, 1);
+        sample(rounded, 0, 0, 2 * Float.MIN_VALUE, Float.MIN_VALUE, 0, 1);
+        sample(rounded, 0, 0, Float.MIN_VALUE, 2 * Float.MIN_VALUE, -1, 1);
+        sample(rounded, 0, 0, -Float.MIN_VALUE, Float.MIN_VALUE, -1, 0);
         sample(rounded, 0, 0, 8388607.5f, 0, 8388607, 2100);
         sample(rounded, 0, 0, -8388607.5f, 0, -10000, -8388607);
         sample(rounded, 0, 0, 16777216f, 0, 16777216, 2100);
@@ -180,6 +186,16 @@ public final class EdgesOfSpansTest {
         drawn(d, 0, 296, 889);
     }
 
+    private static void othersBoundNothing() {
+        for (int kind = 0; kind < 5; kind++) {
+            Dig d = new Dig("BOUNDS: of each COIN, of each SAMPLE; SHERDS, NOTES, BAGS bound nothing");
+            d.units(kind).does("tray", 0, 4).does("sherds", 0, 0, 0, 1).does("sherds", 0, 0, 1, 100).does("note", 0, 1, 0x4142);
+            d.does("note", 0, 2, 65).does("bag", 0, 3, 2).does("note", 1, 0, 0x7e7e).does("sherds", 1, 1, 7, 0);
+            drawn(d, 0, -10000, 2100);
+            because(d);
+        }
+    }
+
     private static void noQuarrel() {
         Dig d = new Dig("39, 40: 0: there is none; NONE: there is no QUARREL");
         because(d);
@@ -203,6 +219,29 @@ public final class EdgesOfSpansTest {
         because(d, 0, 72, -5, -5, 1, 71, 0, 1);
         d.does("span", 0, 1, 71);
         because(d, 1, 72, 0, 0, 0, 71, -5, -5);
+    }
+
+    private static void quarrelOfOthers() {
+        Dig d = new Dig("X and Y one, or Y LATER than X: BLOCKS as they are now");
+        d.layers(4).does("span", 1, 50, 100).does("span", 2, 500, 600);
+        because(d);
+        d.does("bond", 1, 2);
+        because(d, 2, 500, -5, -5, 1, 100, -5, -5);
+        d.does("undo");
+        because(d);
+        d.does("bond", 0, 1);
+        because(d);
+        d.does("above", 2, 0);
+        because(d);
+        d.does("undo").does("above", 0, 3).does("above", 3, 2);
+        because(d, 2, 500, -5, -5, 1, 100, -5, -5, 0, 1);
+        d.does("undo");
+        because(d);
+        d.does("undo").does("undo").does("bond", 1, 2);
+        because(d, 2, 500, -5, -5, 1, 100, -5, -5);
+        // From the one BLOCK to the other without a question between.
+        d.does("undo").does("bond", 0, 1);
+        because(d);
     }
 
     private static void leastRow() {
@@ -292,8 +331,10 @@ public final class EdgesOfSpansTest {
         samples();
         rounding();
         allOfOne();
+        othersBoundNothing();
         noQuarrel();
         quarrelOfOne();
+        quarrelOfOthers();
         leastRow();
         firstRow();
         blocksByNames();

@@ -273,6 +273,15 @@ public final class EdgesOfTraysTest {
         d.due(1, "coin", 0, 4, 1, 2).due(1, "lose", 3).refuses(Dig.NOTHING, "kind", 3, 1).due(-5, "kind", 4, 0);
     }
 
+    private static void takeOthers() {
+        Dig d = dig("23: What a SLOT holds goes, and nothing else: BAGS stay where they are, whatever numbers a FIND has");
+        d.does("bag", 0, 0, 2).does("sherds", 3, 0, 7, 9).does("sherds", 0, 1, 0, 3).does("coin", 0, 2, 3, 3).does("sample", 0, 3, 3, 3);
+        for (int slot = 1; slot <= 3; slot++) {
+            d.does("move", 0, slot, 1, slot).due(9, "total", 0, 7).due(3, "bagged", 0, 0);
+            d.does("take", 1, slot).due(9, "total", 0, 7).refuses(Dig.STORE, "move", 0, 0, 3, 1);
+        }
+    }
+
     private static void moveRefused() {
         Dig d = stocked("24: BAD: TRAYS; NOTHING, BEYOND (the first SLOT; then that it is EMPTY: NOTHING; then the other SLOT); STORE; STATE");
         for (int bad : new int[] {-1, 4, -5, LEAST, MOST}) {
@@ -359,6 +368,7 @@ public final class EdgesOfTraysTest {
         bag();
         take();
         takeBag();
+        takeOthers();
         moveRefused();
         move();
         moveStore();
