@@ -261,6 +261,35 @@ public final class EdgesOfSpansTest {
         because(d, 3, 400, -5, -5, 5, 200, -5, -5, 0);
     }
 
+    private static void noRowIsLeast() {
+        Dig d = new Dig("those with the least such row: of none at all ahead of one of one, whatever the names");
+        d.units(0, 0, 4, 4).does("above", 1, 0).does("span", 0, 500, 600).does("span", 1, 100, 200);
+        because(d, 0, 500, -5, -5, 1, 200, -5, -5, 0);
+        d.does("tray", 3, 2).does("coin", 0, 0, 300, 310).does("coin", 0, 1, 1, 2);
+        because(d, 3, 300, 0, 0, 3, 62, 0, 1);
+        d.does("span", 2, 700, 700).does("bond", 2, 3);
+        because(d, 2, 700, -5, -5, 3, 62, 0, 1);
+        d.does("undo").does("undo").does("undo");
+        because(d, 0, 500, -5, -5, 1, 200, -5, -5, 0);
+    }
+
+    private static void apart() {
+        Dig d = new Dig("X and Y one, or Y LATER than X: not of BLOCKS that no row leads to, however long the rows of others");
+        d.layers(14);
+        for (int u = 0; u < 12; u++) {
+            d.does("above", u, u + 1);
+        }
+        d.does("span", 13, 500, 600);
+        for (int u = 0; u <= 12; u++) {
+            d.does("span", u, 100, 200).due(0, "quarrel");
+        }
+        because(d);
+        d.does("above", 5, 13);
+        because(d, 13, 500, -5, -5, 5, 200, -5, -5, 12);
+        d.does("undo").does("above", 13, 0);
+        because(d);
+    }
+
     private static void firstRow() {
         Dig d = new Dig("the shortest row of RELATIONS from Y to X (as for THE RING)");
         d.layers(6).does("above", 0, 1).does("above", 1, 2).does("above", 2, 5).does("above", 0, 3).does("above", 0, 4).does("above", 4, 5);
@@ -336,6 +365,8 @@ public final class EdgesOfSpansTest {
         quarrelOfOne();
         quarrelOfOthers();
         leastRow();
+        noRowIsLeast();
+        apart();
         firstRow();
         blocksByNames();
         likeBoundsOfOne();

@@ -64,6 +64,22 @@ public final class EdgesOfTraysTest {
         d.does("undo").due(59, "bag", 1, 29, 1).refuses(Dig.FULL, "tray", 1, 1);
     }
 
+    private static void lastSlot() {
+        Dig d = new Dig("BEYOND: a SLOT that is not there, behind the last SLOT of the last TRAY");
+        d.layers(1).does("tray", 0, 40);
+        for (int t = 1; t < 60; t++) {
+            d.due(t, "bag", t - 1, 39, 40);
+        }
+        d.refuses(Dig.BEYOND, "take", 59, 40).refuses(Dig.BEYOND, "move", 59, 40, 0, 0).refuses(Dig.BEYOND, "mark", 59, 40, 1);
+        d.refuses(Dig.BEYOND, "kind", 59, 40).refuses(Dig.BEYOND, "sherd", 59, 40, 0).refuses(Dig.BEYOND, "year", 59, 40, true);
+        d.refuses(Dig.BEYOND, "grain", 59, 40, true).refuses(Dig.BEYOND, "letter", 59, 40, 0).refuses(Dig.BEYOND, "bagged", 59, 40);
+        d.refuses(Dig.BEYOND, "coin", 59, 40, 1, 2).refuses(Dig.BEYOND, "sample", 59, 40, 1, 2).refuses(Dig.BEYOND, "sherds", 59, 40, 0, 1);
+        d.refuses(Dig.BEYOND, "note", 59, 40, 65).refuses(Dig.BEYOND, "join", 59, 40, 59, 40).due(0, "copy", 59, 40, 1, 0, 0).due(Dig.BEYOND, "status");
+        d.due(7, "sherds", 59, 39, 7, 7).due(7, "total", 0, 7).due(1, "join", 59, 39, 59, 39).due(1, "joins", 0, 0);
+        d.refuses(Dig.STORE, "move", 0, 39, 59, 0).refuses(Dig.STORE, "move", 58, 39, 59, 39).due(0, "move", 59, 39, 59, 0);
+        d.due(1, "coin", 59, 39, 5, 6).told(5, "drawn", 0, 0).due(1, "copy", 59, 39, 2, 59, 1).due(Dig.BEYOND, "status").due(1, "take", 59, 39);
+    }
+
     private static void lose() {
         Dig d = stocked("17: A TRAY, or BAG, is LOST: 1; 0: it was (left out). BAD");
         for (int bad : new int[] {-1, 4, -5, LEAST, MOST}) {
@@ -354,6 +370,7 @@ public final class EdgesOfTraysTest {
         trayNumbers();
         traysOfUnit();
         traysFull();
+        lastSlot();
         lose();
         lost();
         lostBag();
