@@ -21,12 +21,22 @@ final class Dig {
     private static final Map<String, Method> FACE = new HashMap<>();
     private static int looked;
     private static int wrong;
+    /** In a trial a promise is broken on purpose, and the first wrong answer is what it waits for. */
+    static boolean trial;
 
     static {
         for (Method m : DigHouse.class.getMethods()) {
             if (m.getDeclaringClass() == DigHouse.class) {
                 FACE.put(m.getName(), m);
             }
+        }
+    }
+
+    static final class Found extends RuntimeException {
+        private static final long serialVersionUID = 1;
+
+        Found(String what) {
+            super(what);
         }
     }
 
@@ -66,6 +76,9 @@ final class Dig {
     private void look(String what, long got, long want) {
         looked++;
         if (got != want) {
+            if (trial) {
+                throw new Found(sentence);
+            }
             wrong++;
             if (wrong <= 20) {
                 List<Call> latest = calls.subList(Math.max(0, calls.size() - 40), calls.size());
@@ -194,6 +207,9 @@ final class Dig {
     }
 
     static void end(String name) {
+        if (trial) {
+            return;
+        }
         System.out.println(name + ": " + looked + " answers looked at, " + wrong + " not as due");
         if (wrong != 0) {
             System.exit(1);

@@ -161,6 +161,9 @@ public final class EdgesOfBookTest {
     }
 
     private static void count() {
+        Dig few = new Dig("46: 0 UNITS, 1 RELATIONS, 2 BLOCKS, 3 TRAYS, of each one or none");
+        few.due(0, "count", 0).due(0, "count", 2).does("unit", 0, 0).due(1, "count", 0).due(1, "count", 2).due(0, "count", 3).does("tray", 0, 0);
+        few.due(1, "count", 3).due(0, "count", 1).does("unit", 0, 0).does("above", 0, 1).due(1, "count", 1).due(2, "count", 2);
         Dig d = stocked("46: 0 .. 12. BAD");
         for (int bad : new int[] {-1, 13, -5, LEAST, MOST}) {
             d.refuses(Dig.BAD, "count", bad);

@@ -269,6 +269,16 @@ public final class EdgesOfFindsTest {
         d.due(5, "count", 8).due(0, "status");
     }
 
+    private static void shareCut() {
+        Dig d = new Dig("36: A thousand times those of a TYPE, by those of all, cut");
+        d.units(0).does("tray", 0, 11).does("sherds", 0, 0, 0, 1);
+        for (int s = 0; s < 10; s++) {
+            d.does("sherds", 0, s, 1, 99 + (s == 0 ? 0 : 1));
+        }
+        d.due(1, "share", 0, 0).due(999, "share", 0, 1).does("sherds", 0, 10, 2, 1).due(0, "share", 0, 0).due(0, "share", -5, 2);
+        d.does("sherds", 0, 0, 0, 1).due(1, "share", 0, 0).due(0, "share", 0, 2).due(997, "share", 0, 1);
+    }
+
     private static void mostSherds() {
         Dig d = new Dig("35, 36: as many SHERDS as there can be");
         for (int u = 0; u < 10; u++) {
@@ -306,6 +316,7 @@ public final class EdgesOfFindsTest {
         totalOf();
         depth();
         share();
+        shareCut();
         mostSherds();
         Dig.end("EdgesOfFindsTest");
     }

@@ -84,7 +84,7 @@ public final class EdgesOfRelationsTest {
                 }
             }
         }
-        d.due(2, "count", 1).due(23, "count", 7).refuses(Dig.CAST, "fill", 2, 2);
+        d.due(2, "count", 1).due(23, "count", 7).refuses(Dig.CAST, "fill", 2, 2).due(2, "fill", 2, 6).due(3, "fill", 7, 9).does("undo").does("undo");
         d.due(2, "above", 1, 2).refuses(Dig.RING, "fill", 2, 1).list("ring", 2);
         d.due(3, "above", 6, 8).due(4, "above", 8, 7).refuses(Dig.RING, "fill", 7, 6).list("ring", 3, 4);
         d.due(1, "bond", 7, 4).refuses(Dig.RING, "fill", 7, 4).list("ring");

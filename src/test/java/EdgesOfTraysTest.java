@@ -229,6 +229,7 @@ public final class EdgesOfTraysTest {
             d.due(due[k], "letter", 0, 3, k);
         }
         d.refuses(Dig.BEYOND, "letter", 0, 3, 11).does("undo").refuses(Dig.BEYOND, "letter", 0, 3, 3).due(126, "letter", 0, 3, 2);
+        d.due(1, "note", 0, 5, 126L << 56).due(126, "letter", 0, 5, 0).refuses(Dig.BEYOND, "letter", 0, 5, 1).does("undo");
         d.due(2, "note", 0, 5, 0x0061_0000_0000_6200L).due(0x61, "letter", 0, 5, 0).due(0x62, "letter", 0, 5, 1).due(3, "kind", 0, 5);
         for (int at = 0; at < 8; at++) {
             d.due(3 + at, "note", 0, 5, 65L + at << 8 * at).due(65 + at, "letter", 0, 5, 2 + at);
