@@ -1,3 +1,4 @@
+import java.lang.reflect.Method;
 import java.util.ArrayList;
 import java.util.List;
 
@@ -128,6 +129,21 @@ final class Breaks {
         }
     }
 
+    private void breakArguments(int promise, Method m) {
+        Class<?>[] types = m.getParameterTypes();
+        // It is one and the same which UNIT is told first.
+        boolean alike = m.getName().equals("bond") || m.getName().equals("joins");
+        for (int i = 0; i < types.length; i++) {
+            breakIt(promise, Watch.How.ONE_MORE, m.getName(), i, Watch.ANY);
+            breakIt(promise, Watch.How.ONE_LESS, m.getName(), i, Watch.ANY);
+            for (int j = i + 1; j < types.length; j++) {
+                if (types[i] == types[j] && !alike) {
+                    breakIt(promise, Watch.How.SWAPPED, m.getName(), i, j);
+                }
+            }
+        }
+    }
+
     private void breakAll() {
         breakIt(1, Watch.How.NEW, "DigHouse", 0, Watch.ANY);
         for (int i = 0; i < ANSWERS.length; i++) {
@@ -138,6 +154,11 @@ final class Breaks {
                 breakAct(i + 2, words);
             }
             breakWhatStays(i + 2, words[0]);
+            for (Method m : DigHouse.class.getMethods()) {
+                if (m.getName().equals(words[0])) {
+                    breakArguments(i + 2, m);
+                }
+            }
         }
         for (String leftOut : new String[] {"bond", "lose", "copy"}) {
             breakIt(45, Watch.How.ENTERED, leftOut, 0, Watch.ANY);

@@ -20,14 +20,15 @@ public final class BrokenTest {
         List<String> hands = new ArrayList<>();
         List<String> numbers = new ArrayList<>();
         for (Class<?> type : m.getParameterTypes()) {
-            String a = "a" + takes.size();
-            takes.add(type.getName() + " " + a);
-            hands.add(a);
-            numbers.add(type == boolean.class ? ", " + a + " ? 1 : 0" : ", " + a);
+            int i = takes.size();
+            boolean yesOrNo = type == boolean.class;
+            takes.add(type.getName() + " a" + i);
+            numbers.add(", a" + i + (yesOrNo ? " ? 1 : 0" : ""));
+            hands.add(yesOrNo ? "x[" + i + "] == 1" : "(" + type.getName() + ") x[" + i + "]");
         }
         String returns = m.getReturnType().getName();
         return "    public " + returns + " " + m.getName() + "(" + String.join(", ", takes) + ") {\n"
-            + "        return (" + returns + ") watch.call(\"" + m.getName() + "\", () -> sound." + m.getName() + "("
+            + "        return (" + returns + ") watch.call(\"" + m.getName() + "\", x -> sound." + m.getName() + "("
             + String.join(", ", hands) + ")" + String.join("", numbers) + ");\n    }\n";
     }
 

@@ -5,6 +5,7 @@ import java.util.function.IntBinaryOperator;
 import java.util.function.IntSupplier;
 import java.util.function.IntUnaryOperator;
 import java.util.function.LongSupplier;
+import java.util.function.ToLongFunction;
 
 /** Stands between a test and the class, and breaks one promise on purpose: see BrokenTest. */
 final class Watch {
@@ -40,10 +41,16 @@ final class Watch {
         /** A SEQUENCE is AT HAND behind the call. */
         AT_HAND,
         /** A new object has something. */
-        NEW
+        NEW,
+        /** The argument 'which' is taken for one more than it is. */
+        ONE_MORE,
+        /** The argument 'which' is taken for one less than it is. */
+        ONE_LESS,
+        /** The arguments 'which' and 'what' are taken for one another. */
+        SWAPPED
     }
 
-    /** What is broken; which: of this answer alone; what: of this last argument alone (ANY: of all). */
+    /** What is broken; which: of this answer alone, or an argument; what: of this last argument alone (ANY: of all), or another one. */
     record Broken(How how, String name, long which, long what) {
         boolean is(How other, String method) {
             return how == other && name.equals(method);
@@ -109,7 +116,23 @@ final class Watch {
         return sortOf(name, answer) == broken.which && (broken.what == ANY || broken.what == what);
     }
 
-    long call(String name, LongSupplier call, long... args) {
+    private static long[] broken(String name, long... args) {
+        long[] taken = args.clone();
+        int which = (int) broken.which;
+        if (broken.is(How.ONE_MORE, name)) {
+            taken[which]++;
+        } else if (broken.is(How.ONE_LESS, name)) {
+            taken[which]--;
+        } else if (broken.is(How.SWAPPED, name)) {
+            taken[which] = args[(int) broken.what];
+            taken[(int) broken.what] = args[which];
+        }
+        return taken;
+    }
+
+    long call(String name, ToLongFunction<long[]> face, long... args) {
+        long[] taken = broken(name, args);
+        LongSupplier call = () -> face.applyAsLong(taken);
         int acts = count.applyAsInt(4);
         long what = args.length == 0 ? ANY : args[args.length - 1];
         long answer = call.getAsLong();
